@@ -26,8 +26,8 @@ public final class TreeCover {
     // Chain rules cost at least 1, so a least cover meets a goal once at most at each operator of the tree.
     private static final int COVER_RULES = TREE_NODES * GOALS;
     private static final int PENDING = TREE_NODES + 1;
-    // A row 20 steps deep costs at most 36 * (2^21 - 1), so real costs, and sums of two, stay below this;
-    // and the sum of two of these with a rule's cost doesn't wrap.
+    // A state's tree is at most 20 operators deep, each of which at most doubles the costs and adds 36: real
+    // costs, and sums of two, stay below this; and the sum of two of these with a rule's cost doesn't wrap.
     private static final int ABSENT = 1 << 29;
 
     // The stack of patterns holds numbers of nodes; a node's symbol is an operator, or OPERATORS + goal.
@@ -347,6 +347,7 @@ public final class TreeCover {
 
     /** The least costs for a tree, from the rows of its parts; a row that the operator has no part for isn't read. */
     private void fillCosts(int[] table, int row, int operator, int first, int last) {
+        int parts = partsOf(operator);
         int base = row * ENTRIES;
         for (int g = 0; g < GOALS; g++) {
             table[base + g] = ABSENT;
@@ -354,7 +355,7 @@ public final class TreeCover {
         for (int entry = GOALS; entry < entryCount; entry++) {
             int least = ABSENT;
             if (entryOperator[entry] == operator) {
-                least = costOfParts(table, entry, first, last);
+                least = costOfParts(table, entry, parts, first, last);
             }
             table[base + entry] = least;
         }
@@ -364,8 +365,7 @@ public final class TreeCover {
         }
     }
 
-    private int costOfParts(int[] table, int entry, int first, int last) {
-        int parts = partsOf(entryOperator[entry]);
+    private int costOfParts(int[] table, int entry, int parts, int first, int last) {
         int sum = 0;
         if (parts >= 1) {
             sum += table[last * ENTRIES + entryLast[entry]];
@@ -395,9 +395,6 @@ public final class TreeCover {
 
     private void fillWays(int node) {
         int base = node * ENTRIES;
-        for (int g = 0; g < GOALS; g++) {
-            treeWays[base + g] = 0;
-        }
         for (int entry = GOALS; entry < entryCount; entry++) {
             int count = 0;
             if (treeCosts[base + entry] != ABSENT) {
@@ -405,7 +402,8 @@ public final class TreeCover {
             }
             treeWays[base + entry] = count;
         }
-        // Least chains have strictly falling costs, so a goal is settled one round after the goals it leads to.
+        // Costs fall along a least chain, so a goal is settled one round after the goals that it leads to,
+        // whatever an earlier question has left here.
         for (int round = 0; round < GOALS; round++) {
             for (int g = 0; g < GOALS; g++) {
                 treeWays[base + g] = waysOfRules(g, node);

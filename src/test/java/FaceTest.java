@@ -40,7 +40,8 @@ public final class FaceTest {
         Set<String> seen = new TreeSet<>();
         for (Field f : TreeCover.class.getDeclaredFields()) {
             if (!Modifier.isPrivate(f.getModifiers())) {
-                seen.add(Modifier.toString(f.getModifiers()) + " " + f.getType() + " " + f.getName() + " = " + value(f));
+                String kind = Modifier.toString(f.getModifiers()) + " " + f.getType();
+                seen.add(kind + " " + f.getName() + " = " + value(f));
             }
         }
         for (Constructor<?> c : TreeCover.class.getDeclaredConstructors()) {

@@ -35,8 +35,8 @@ public final class PromisesTest {
         }
     }
 
-    private static final int[] NOT_GOALS = {-1, 4, 5, 6, 32, 256, 65536, 1 << 30, Integer.MAX_VALUE, Integer.MIN_VALUE};
-    private static final int[] NOT_OPERATORS = {-1, 6, 7, 9, 32, 256, 65536, 1 << 30, Integer.MAX_VALUE, Integer.MIN_VALUE};
+    private static final int[] NOT_GOALS = {-1, 4, 5, 6, 32, 256, 65536, Integer.MAX_VALUE, Integer.MIN_VALUE};
+    private static final int[] NOT_OPERATORS = {-1, 6, 7, 9, 32, 256, 65536, Integer.MAX_VALUE, Integer.MIN_VALUE};
 
     private static void due(String call, long got, long want) {
         if (got != want) {
@@ -408,6 +408,10 @@ public final class PromisesTest {
         add(y, 0, "014", 1);
         due("parts that aren't rules' patterns", y.states(), 4);
         due("covering", y.covering(0), 1);
+        add(y, 1, "104", 1);
+        due("the parts the other way round", y.states(), 5);
+        add(y, 2, "114", 1);
+        due("the same part twice", y.states(), 6);
         TreeCover z = new TreeCover();
         add(z, 0, "a", 1);
         add(z, 1, "a2", 0);
