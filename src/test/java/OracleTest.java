@@ -1,3 +1,4 @@
+import java.math.BigInteger;
 import java.util.ArrayList;
 import java.util.HashMap;
 import java.util.HashSet;
@@ -8,7 +9,8 @@ import java.util.Set;
 
 /**
  * Runs of calls, made by a fixed sequence of numbers, against a plain model: it lists every cover of a tree that
- * no goal meets twice at one place, and finds costs, ways and first covers by looking through the list.
+ * no goal meets twice at one place, and finds costs, ways and first covers by looking through the list. Where the
+ * covers are too many to list, it counts them as large numbers, and compares the first covers of the parts.
  */
 public final class OracleTest {
     private static final int ABSENT = -1;
@@ -63,6 +65,30 @@ public final class OracleTest {
     }
 
     private record Cover(int cost, List<Integer> rules) {
+    }
+
+    /** The covers with the least cost together: their number, and the first of them. */
+    private record Best(int cost, BigInteger ways, List<Integer> first) {
+        static final Best NOTHING = new Best(ABSENT, BigInteger.ZERO, List.of());
+
+        Best or(Best other) {
+            if (other.cost == ABSENT || cost != ABSENT && cost < other.cost) {
+                return this;
+            }
+            if (cost == ABSENT || other.cost < cost) {
+                return other;
+            }
+            return new Best(cost, ways.add(other.ways), Model.before(first, other.first) ? first : other.first);
+        }
+
+        Best then(Best other) {
+            if (cost == ABSENT || other.cost == ABSENT) {
+                return NOTHING;
+            }
+            List<Integer> list = new ArrayList<>(first);
+            list.addAll(other.first);
+            return new Best(cost + other.cost, ways.multiply(other.ways), list);
+        }
     }
 
     private static final class TooMany extends RuntimeException {
@@ -281,6 +307,41 @@ public final class OracleTest {
             return best;
         }
 
+        /** The best covers, again with a budget of chain rules; found holds what is known by tree, pattern and budget. */
+        Best best(Node pattern, Node tree, int chains, Map<Node, Map<Node, Best[]>> found) {
+            Best[] kept = found.computeIfAbsent(tree, t -> new IdentityHashMap<>())
+                .computeIfAbsent(pattern, p -> new Best[4]);
+            if (kept[chains] == null) {
+                kept[chains] = pattern.symbol() < 10 ? bestOfParts(pattern, tree, found)
+                    : bestOfRules(pattern, tree, chains, found);
+            }
+            return kept[chains];
+        }
+
+        private Best bestOfParts(Node pattern, Node tree, Map<Node, Map<Node, Best[]>> found) {
+            if (pattern.symbol() != tree.symbol()) {
+                return Best.NOTHING;
+            }
+            Best best = new Best(0, BigInteger.ONE, List.of());
+            for (int i = 0; i < pattern.parts().size(); i++) {
+                best = best.then(best(pattern.parts().get(i), tree.parts().get(i), 3, found));
+            }
+            return best;
+        }
+
+        private Best bestOfRules(Node goal, Node tree, int chains, Map<Node, Map<Node, Best[]>> found) {
+            Best best = Best.NOTHING;
+            for (int r = 0; r < rules.size(); r++) {
+                Rule rule = rules.get(r);
+                boolean chain = rule.pattern().symbol() >= 10;
+                if (rule.left() == goal.symbol() - 10 && (!chain || chains > 0)) {
+                    Best start = new Best(rule.cost(), BigInteger.ONE, List.of(r));
+                    best = best.or(start.then(best(rule.pattern(), tree, chain ? chains - 1 : 3, found)));
+                }
+            }
+            return best;
+        }
+
         /** For each entry how much it is above the least one, or ABSENT. */
         List<Integer> state(Node tree, List<Node> entries, Known known) {
             List<Integer> state = new ArrayList<>();
@@ -334,7 +395,8 @@ public final class OracleTest {
 
     private static long seed = 20261115L;
     private static int wrong = 0;
-    private static int skipped = 0;
+    private static int notListed = 0;
+    private static int wrapped = 0;
     private static int compared = 0;
     private static int large = 0;
     private static int severalWays = 0;
@@ -391,24 +453,39 @@ public final class OracleTest {
         }
     }
 
+    /** From the list of all covers, if it isn't too long. */
+    private static Best bestOf(Model m, int g) {
+        try {
+            List<Cover> least = m.leastCovers(g);
+            if (least.isEmpty()) {
+                return Best.NOTHING;
+            }
+            return new Best(least.get(0).cost(), BigInteger.valueOf(least.size()), m.firstCover(g));
+        } catch (TooMany e) {
+            notListed++;
+            return m.best(GOALS.get(g), m.top(), 3, new IdentityHashMap<>());
+        }
+    }
+
     private static void askCovers(TreeCover x, Model m, int g) {
         boolean bad = g < 0 || g > 3;
-        try {
-            List<Cover> least = bad ? List.of() : m.leastCovers(g);
-            List<Integer> first = bad ? List.of() : m.firstCover(g);
-            if (calls + first.size() + 20 > MOST_CALLS) {
-                return;
-            }
-            severalWays += least.size() > 1 ? 1 : 0;
-            due("cost(" + g + ")", x.cost(g), bad ? -1 : least.isEmpty() ? -4 : least.get(0).cost());
-            due("ways(" + g + ")", x.ways(g), bad ? -1 : least.size());
-            due("uses(" + g + ")", x.uses(g), bad ? -1 : least.isEmpty() ? -4 : first.size());
-            for (int i = -1; i <= first.size(); i++) {
-                boolean there = i >= 0 && i < first.size();
-                due("used(" + g + ", " + i + ")", x.used(g, i), bad ? -1 : there ? first.get(i) : -4);
-            }
-        } catch (TooMany e) {
-            skipped++;
+        compareCovers(x, g, bad ? Best.NOTHING : bestOf(m, g), bad);
+    }
+
+    private static void compareCovers(TreeCover x, int g, Best best, boolean bad) {
+        List<Integer> first = best.first();
+        if (calls + first.size() + 20 > MOST_CALLS) {
+            return;
+        }
+        severalWays += best.ways().compareTo(BigInteger.ONE) > 0 ? 1 : 0;
+        wrapped += best.ways().bitLength() > 31 ? 1 : 0;
+        int none = bad ? -1 : -4;
+        due("cost(" + g + ")", x.cost(g), best.cost() == ABSENT ? none : best.cost());
+        due("ways(" + g + ")", x.ways(g), bad ? -1 : best.ways().intValue());
+        due("uses(" + g + ")", x.uses(g), first.isEmpty() ? none : first.size());
+        for (int i = -1; i <= first.size(); i++) {
+            boolean there = i >= 0 && i < first.size();
+            due("used(" + g + ", " + i + ")", x.used(g, i), there ? first.get(i) : none);
         }
     }
 
@@ -548,15 +625,19 @@ public final class OracleTest {
         }
     }
 
-    /** A rule for each operator, with goals as its parts. */
+    /** A rule for an operator with goals as its parts. */
+    private static void addPlainRule(TreeCover x, Model m, int o, int dearest) {
+        for (int part = 0; part < Model.arity(o); part++) {
+            pushGoal(x, m, next(goals));
+        }
+        pushOperator(x, m, o);
+        addRule(x, m, next(dearest + 1));
+    }
+
     private static void addPlainRules(TreeCover x, Model m, int dearest) {
         for (int o = 0; o < 6; o++) {
             if (o < leaves || o >= 2 && o < 2 + unaries || o >= 4 && o < 4 + binaries) {
-                for (int part = 0; part < Model.arity(o); part++) {
-                    pushGoal(x, m, next(goals));
-                }
-                pushOperator(x, m, o);
-                addRule(x, m, next(dearest + 1));
+                addPlainRule(x, m, o, dearest);
             }
         }
     }
@@ -601,11 +682,44 @@ public final class OracleTest {
         }
     }
 
+    /** Runs with trees as large as they can be, and rules in which many covers have the least cost. */
+    private static void deepRuns(int runs) {
+        for (int i = 0; i < runs; i++) {
+            run = "deep run " + i;
+            calls = 0;
+            TreeCover x = new TreeCover();
+            Model m = new Model();
+            leaves = 1;
+            unaries = 1;
+            binaries = 1;
+            goals = 1 + next(3);
+            int dearest = next(3);
+            for (int r = 0; r < 9; r++) {
+                addPlainRule(x, m, new int[] {0, 2, 4}[r % 3], dearest);
+            }
+            if (next(2) == 0) {
+                addAnyRules(x, m, 1, 1);
+            } else {
+                addPlainRule(x, m, 2, 0);
+            }
+            growTrees(x, m, 22);
+            for (int n = 0; n < 2 && m.trees.size() > 1; n++) {
+                due("tree(4)", x.tree(4), Model.push(m.trees, 4, 8, 24));
+            }
+            Map<Node, Map<Node, Best[]>> found = new IdentityHashMap<>();
+            for (int g = 0; g < 4; g++) {
+                compareCovers(x, g, m.best(GOALS.get(g), m.top(), 3, found), false);
+            }
+        }
+    }
+
     public static void main(String[] args) {
         freeRuns(1500);
         richRuns(3000);
+        deepRuns(1500);
         System.out.println(compared + " answers compared, " + severalWays + " questions with several least covers, "
-            + large + " answers LARGE, " + skipped + " questions with too many covers to list");
+            + wrapped + " with so many that the number wraps, " + notListed + " with too many covers to list, "
+            + large + " answers LARGE");
         System.out.println(wrong == 0 ? "all answers are as due" : wrong + " answers are not as due");
         if (wrong != 0) {
             System.exit(1);
