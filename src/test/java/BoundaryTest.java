@@ -259,6 +259,8 @@ public final class BoundaryTest {
         usedTheFirstAsInADictionary();
         usesNoneAndTheMost();
         theGoalIsTestedFirst();
+        everythingFull();
+        everythingFullAndLarge();
     }
 
     // What it is, and the terms.
@@ -1162,15 +1164,15 @@ public final class BoundaryTest {
 
     private static void statesOfTreesThatNoStackHolds() {
         Run x = run("states: of all trees that there are, also those of over 24 operators");
-        x.add(0, "0", 0);
-        x.add(1, "aa4aa44", 0);
+        x.add(0, "0", 9);
+        x.add(1, "aa4aa44", 9);
         x.states(4);
-        x.add(2, "bb4bb44", 0);
+        x.add(2, "bb4bb44", 9);
         x.states(6);
         x.covering(0, 1);
         x.covering(1, 1);
         x.covering(2, 1);
-        x.add(3, "cc4cc44", 0);
+        x.add(3, "cc4cc44", 9);
         x.states(8);
         x.covering(3, 1);
         x.add(0, "dd4dd44", 9);
@@ -1609,5 +1611,71 @@ public final class BoundaryTest {
         x.cost(0, 1);
         x.ways(0, 1);
         x.cover(0, "0");
+    }
+
+    // All limits at once.
+
+    private static void everythingFull() {
+        Run x = run("10 rules of 7 operators each, 7 operators and goals on 6 patterns, 24 operators on 8 trees");
+        for (int r = 0; r < 10; r++) {
+            x.add(r % 4, "0222222", 9 - r);
+        }
+        x.patterns("abcdab3");
+        x.trees("022222222220101010222222");
+        int[] costs = {1, 0, 3, 2};
+        for (int round = 0; round < 2; round++) {
+            x.goal(0, FULL);
+            x.pattern(0, FULL);
+            x.pattern(5, FULL);
+            x.rule(0, 0, TOO_FEW);
+            x.tree(0, FULL);
+            x.tree(5, FULL);
+            x.size(7);
+            x.goals(15);
+            x.alike(false);
+            x.states(8);
+            for (int g = 0; g < 4; g++) {
+                x.covering(g, 1);
+                x.cost(g, costs[g]);
+                x.ways(g, 1);
+                x.cover(g, "" + (9 - costs[g]));
+            }
+        }
+        x.scrap(6);
+        x.fresh(ALL_24);
+        x.goals(0);
+        x.alike(false);
+        for (int g = 0; g < 4; g++) {
+            x.noCover(g);
+        }
+        x.unrule(9);
+        x.states(8);
+        x.fresh("0222222");
+        x.cost(1, 4);
+    }
+
+    private static void everythingFullAndLarge() {
+        String[] words = {"0222222", "1222222", "0333333", "1333333", "0232323", "1232323", "0323232", "1323232",
+            "0223322", "0332233"};
+        Run x = run("10 rules of 7 operators each, with more than 20 states");
+        for (int r = 0; r < 10; r++) {
+            x.add(r % 4, words[r], 9 - r);
+        }
+        for (int r = 0; r < 10; r++) {
+            x.fresh("01" + words[r]);
+            x.goals(1 << r % 4);
+            x.cost(r % 4, 9 - r);
+            x.cover(r % 4, "" + r);
+        }
+        x.fresh("022222222222222220332233");
+        x.goals(2);
+        x.cost(1, 0);
+        x.states(LARGE);
+        for (int g = 0; g < 4; g++) {
+            x.covering(g, LARGE);
+        }
+        x.cost(1, 0);
+        x.alike(false);
+        x.size(7);
     }
 }
