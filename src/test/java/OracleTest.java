@@ -307,7 +307,7 @@ public final class OracleTest {
             return best;
         }
 
-        /** The best covers, again with a budget of chain rules; found holds what is known by tree, pattern and budget. */
+        /** The best covers, again with a budget of chain rules; found holds them by tree, pattern and budget. */
         Best best(Node pattern, Node tree, int chains, Map<Node, Map<Node, Best[]>> found) {
             Best[] kept = found.computeIfAbsent(tree, t -> new IdentityHashMap<>())
                 .computeIfAbsent(pattern, p -> new Best[4]);

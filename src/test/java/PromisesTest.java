@@ -29,6 +29,7 @@ public final class PromisesTest {
         uses();
         orderAndLimits();
         refusedCallsChangeNothing();
+        theExampleOfTheReadme();
         System.out.println(wrong == 0 ? "all answers are as due" : wrong + " answers are not as due");
         if (wrong != 0) {
             System.exit(1);
@@ -811,5 +812,34 @@ public final class PromisesTest {
         due("rule", x.rule(3, 1), 3);
         grow(x, "014");
         due("cost", x.cost(3), 7);
+    }
+
+    private static void theExampleOfTheReadme() {
+        promise = "README.md";
+        TreeCover x = new TreeCover();
+        due("pattern(0)", x.pattern(0), 1);
+        due("rule(0, 1)", x.rule(0, 1), 0);
+        due("goal(0)", x.goal(0), 1);
+        due("goal(0)", x.goal(0), 2);
+        due("pattern(4)", x.pattern(4), 1);
+        due("rule(0, 3)", x.rule(0, 3), 1);
+        due("tree(0)", x.tree(0), 1);
+        due("tree(0)", x.tree(0), 2);
+        due("tree(4)", x.tree(4), 1);
+        due("size()", x.size(), 3);
+        due("cost(0)", x.cost(0), 5);
+        due("cost(1)", x.cost(1), TreeCover.NONE);
+        due("goals()", x.goals(), 1);
+        due("ways(0)", x.ways(0), 1);
+        due("uses(0)", x.uses(0), 3);
+        due("used(0, 0)", x.used(0, 0), 1);
+        due("used(0, 2)", x.used(0, 2), 0);
+        due("states()", x.states(), 3);
+        due("covering(0)", x.covering(0), 2);
+        due("tree(1)", x.tree(1), 2);
+        due("alike()", x.alike(), false);
+        due("unrule()", x.unrule(), 1);
+        due("states()", x.states(), 2);
+        due("alike()", x.alike(), true);
     }
 }

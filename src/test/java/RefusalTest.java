@@ -333,7 +333,8 @@ public final class RefusalTest {
     }
 
     private static List<String> patternStacks() {
-        List<String> stacks = new ArrayList<>(List.of("", "a", "d", "ab", "a2", "aa4aa44", "abcdab", "abcdab4", "ab3cd5"));
+        List<String> stacks = new ArrayList<>();
+        stacks.addAll(List.of("", "a", "d", "ab", "a2", "aa4aa44", "abcdab", "abcdab4", "ab3cd5"));
         for (int held = 1; held <= 6; held++) {
             for (int nodes = held; nodes <= 7; nodes++) {
                 stacks.add(stack(held, nodes));
